@@ -385,6 +385,7 @@ public final class HandsInBook {
         long above = foretold.goodCases(current, v, p);
         long below = power(MOST_CASES, current.pages);
         long shared = sharedDivisor(above, below);
+        // Never so, but a divisor is looked at: 0 by 1.
         if (shared < 1) {
             return what;
         }
@@ -999,11 +1000,26 @@ public final class HandsInBook {
         void findFor(int limit) {
             gaps.markNear(limit);
             many = 0;
-            for (int most = 1; most <= gaps.pages; most++) {
+            for (int most = wantedAtLeast(); most <= gaps.pages; most++) {
                 if (areEnough(most)) {
                     return;
                 }
             }
+        }
+
+        /** PAGES none of which lies near another want a HAND each: fewer need not be tried. */
+        int wantedAtLeast() {
+            int wanted = 1;
+            for (int first = 0; first < gaps.pages; first++) {
+                int lone = 1 << first;
+                for (int page = 0; page < gaps.pages; page++) {
+                    if ((gaps.near[page] & lone) == 0) {
+                        lone |= 1 << page;
+                    }
+                }
+                wanted = Math.max(wanted, Integer.bitCount(lone));
+            }
+            return wanted;
         }
 
         /** The numbers are tried from the least on, so the first that will do are the HANDS. */
@@ -1234,7 +1250,7 @@ public final class HandsInBook {
             for (int step = 0; step < 10 && low < high; step++) {
                 int half = (low + high) / 2;
                 hands.gaps.markNear(half);
-                if (hands.areEnough(most)) {
+                if (hands.wantedAtLeast() <= most && hands.areEnough(most)) {
                     high = half;
                 } else {
                     low = half + 1;
