@@ -1407,22 +1407,10 @@ public final class HandsInBook {
         }
 
         int mark() {
-            switch (kindOfIt) {
-                case FADED:
-                    leave(24);
-                    return 2 * markOfPlain();
-                case RULED:
-                    leave(22);
-                    return markOfPlain() - 1000;
-                case COPY:
-                case FORGED:
-                    return markOfCopy();
-                default:
-                    return markOfPlain();
-            }
+            return kindOfIt == COPY || kindOfIt == FORGED ? markOfCopy() : markOfAnyPlain();
         }
 
-        /** What size() is for COPIES, apart from it, so that size() and mark() do not call each other in a ring. */
+        /** Apart from size(), as markOfAnyPlain() is from mark(), so that those two never call each other in a ring. */
         private int sizeOfAnyCopy() {
             if (kindOfIt != FORGED) {
                 return sizeOfCopy();
@@ -1431,10 +1419,23 @@ public final class HandsInBook {
             return 2 * sizeOfCopy();
         }
 
+        private int markOfAnyPlain() {
+            switch (kindOfIt) {
+                case FADED:
+                    leave(24);
+                    return 2 * markOfPlain();
+                case RULED:
+                    leave(22);
+                    return markOfPlain() - 1000;
+                default:
+                    return markOfPlain();
+            }
+        }
+
         private int sizeOfPlain() {
             leave(11);
             int lent = sizeLent();
-            return lent + mark();
+            return lent + markOfAnyPlain();
         }
 
         private int sizeOfCopy() {

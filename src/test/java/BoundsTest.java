@@ -206,6 +206,7 @@ public final class BoundsTest {
         if (want != null) {
             due(got, number(want));
         }
+        check.holds(one.name() + ": what is found behind " + line + " is found anew", trail.isFoundAnew());
         String may = mayChange(name, got);
         for (String part : before.keySet()) {
             if (!(" " + may + " ").contains(" " + part + " ")) {

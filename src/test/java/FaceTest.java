@@ -6,6 +6,8 @@ import java.lang.reflect.Modifier;
 import java.nio.file.Files;
 import java.nio.file.Path;
 import java.util.TreeSet;
+import java.util.regex.Matcher;
+import java.util.regex.Pattern;
 
 /** The public face, and those rules of ../shared/LANGUAGE.md that can be told from the class and its text. */
 public final class FaceTest {
@@ -21,6 +23,11 @@ public final class FaceTest {
     private static final String[] RULED_OUT = {"throw", "throws", "try", "catch", "finally", "synchronized", "assert",
         "protected", "var", "Exact", "hashCode", "toString", "System.currentTimeMillis", "System.nanoTime", "Random",
         "Thread", "->", "::", "@"};
+    /** What rule 4 leaves of the library, as far as it is called by a class's name. */
+    private static final String LIBRARY = " System.arraycopy Arrays.fill Arrays.copyOf Arrays.copyOfRange Math.max"
+            + " Math.min Math.abs Math.floorDiv Math.floorMod Integer.bitCount Integer.numberOfTrailingZeros"
+            + " Integer.compare Long.bitCount Long.numberOfTrailingZeros Long.compare List.of ";
+    private static final int MOST_CLASSES = 12, MOST_FIELDS = 20, MOST_PARAMETERS = 7, MOST_LINES = 60;
     private static final Check check = new Check("FaceTest");
 
     public static void main(String[] args) throws IOException {
@@ -28,9 +35,9 @@ public final class FaceTest {
         methods();
         fields();
         classesInside();
-        if (args.length > 0) {
-            text(Files.readString(Path.of(args[0])));
-        }
+        String source = Files.readString(Path.of(args.length > 0 ? args[0] : "src/main/java/HandsInBook.java"));
+        text(source);
+        lengths(source);
         check.finish();
     }
 
@@ -76,17 +83,27 @@ public final class FaceTest {
     }
 
     private static void classesInside() {
-        check.holds("some twelve classes", HandsInBook.class.getDeclaredClasses().length <= 12);
+        check.holds("some twelve classes", HandsInBook.class.getDeclaredClasses().length < MOST_CLASSES);
+        aClass(HandsInBook.class);
         for (Class<?> inside : HandsInBook.class.getDeclaredClasses()) {
             check.holds(inside + " is static", Modifier.isStatic(inside.getModifiers()));
-            for (Field field : inside.getDeclaredFields()) {
-                if (Modifier.isStatic(field.getModifiers())) {
-                    check.holds(field + " is final", Modifier.isFinal(field.getModifiers()));
-                }
+            check.due("classes inside " + inside, inside.getDeclaredClasses().length, 0);
+            aClass(inside);
+        }
+    }
+
+    private static void aClass(Class<?> one) {
+        int fields = 0;
+        for (Field field : one.getDeclaredFields()) {
+            if (Modifier.isStatic(field.getModifiers())) {
+                check.holds(field + " is final", Modifier.isFinal(field.getModifiers()));
+            } else {
+                fields++;
             }
-            for (Method method : inside.getDeclaredMethods()) {
-                check.holds(method + " has seven parameters at most", method.getParameterCount() <= 7);
-            }
+        }
+        check.holds(one + " has some twenty fields at most", fields <= MOST_FIELDS);
+        for (Method method : one.getDeclaredMethods()) {
+            check.holds(method + " has seven parameters at most", method.getParameterCount() <= MOST_PARAMETERS);
         }
     }
 
@@ -94,9 +111,34 @@ public final class FaceTest {
         String code = source.replaceAll("(?s)/\\*.*?\\*/", " ").replaceAll("//[^\n]*", " ");
         for (String word : RULED_OUT) {
             boolean letters = Character.isLetter(word.charAt(0));
-            String pattern = letters ? "(?s).*\\b" + java.util.regex.Pattern.quote(word) + "\\b.*"
-                    : "(?s).*" + java.util.regex.Pattern.quote(word) + ".*";
+            String pattern = letters ? "(?s).*\\b" + Pattern.quote(word) + "\\b.*"
+                    : "(?s).*" + Pattern.quote(word) + ".*";
             check.holds("no " + word, !code.matches(pattern));
+        }
+        Matcher calls = Pattern.compile("\\b[A-Z]\\w*\\.\\w+").matcher(code);
+        while (calls.find()) {
+            check.holds(calls.group() + " is in the library that is left",
+                    LIBRARY.contains(" " + calls.group() + " "));
+        }
+        Matcher imports = Pattern.compile("(?m)^import (.*);$").matcher(source);
+        while (imports.find()) {
+            check.holds("import " + imports.group(1), imports.group(1).matches("java\\.util\\.(Arrays|ArrayList|List)"));
+        }
+    }
+
+    /** Methods of the class stand four blanks in, those of classes inside eight. */
+    private static void lengths(String source) {
+        String[] lines = source.split("\n");
+        for (String blanks : new String[] {"    ", "        "}) {
+            int first = 0;
+            for (int i = 0; i < lines.length; i++) {
+                if (lines[i].matches(blanks + "\\w.*\\) \\{")) {
+                    first = i;
+                } else if (lines[i].equals(blanks + "}") && first > 0) {
+                    check.holds("the method of line " + (first + 1) + " is short", i - first < MOST_LINES);
+                    first = 0;
+                }
+            }
         }
     }
 }

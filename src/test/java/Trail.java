@@ -69,7 +69,19 @@ final class Trail {
         return x;
     }
 
-    /** All that can be told of the object, part by part; such that calls change it are not made on the object itself. */
+    /** Whether what is found is the same if it was also asked for behind each call that was made so far. */
+    boolean isFoundAnew() {
+        HandsInBook asked = new HandsInBook();
+        for (Call call : calls) {
+            make(asked, call);
+            if (!call.name().equals("feed")) {
+                asked.whole(0);
+            }
+        }
+        return book(asked).equals(book(again()));
+    }
+
+    /** All that can be told of the object, part by part. */
     Map<String, String> parts() {
         Map<String, String> all = new TreeMap<>();
         HandsInBook x = again();
