@@ -104,6 +104,9 @@ final class Trail {
         for (int what = 1; what <= 4; what++) {
             text.append(' ').append(x.count(what));
         }
+        for (int what = 0; what <= 8; what++) {
+            text.append(' ').append(x.whole(what));
+        }
         return text.toString();
     }
 
